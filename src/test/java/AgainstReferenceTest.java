@@ -13,6 +13,14 @@ import java.util.Random;
  */
 public final class AgainstReferenceTest {
 
+    /** With 10 variables, growth 8 and these starts for 32 clauses of width 3, eliminating the variable that stands
+     *  behind and then removing covered clauses fills the stack before the list is empty. */
+    private static final int[][] FULL_STACKS = {
+        {155322408, 9}, {1094297355, 2}, {600203936, 9}, {1083435158, 5}, {142076082, 9}, {163743435, 3},
+        {60417567, 2}, {406074307, 5}, {1212629402, 6}, {852548793, 7}, {539223948, 5}, {166520158, 4},
+        {1580186737, 2}, {1309162292, 6}, {813996601, 5}, {255593202, 0}, {1298472642, 8}, {1264130543, 3},
+    };
+
     private static final Map<String, Method[]> METHODS = new HashMap<>();
     private static final Map<String, Integer> ANSWERS = new HashMap<>();
     private static int wrong = 0;
@@ -42,7 +50,7 @@ public final class AgainstReferenceTest {
     }
 
     private void play() throws Exception {
-        int scene = random.nextInt(6);
+        int scene = random.nextInt(8);
         boolean fine = prepare(scene);
         int calls = 20 + random.nextInt(60);
         for (int i = 0; i < calls && fine; i++) {
@@ -67,7 +75,7 @@ public final class AgainstReferenceTest {
 
     /** Begins with a formula of a certain kind, so that the techniques find something to do. */
     private boolean prepare(int scene) throws Exception {
-        int variables = scene == 4 ? 10 : scene == 5 ? 1 + below(3) : 3 + below(8);
+        int variables = scene == 4 || scene > 5 ? 10 : scene == 5 ? 1 + below(3) : 3 + below(8);
         boolean fine = both("reset", variables);
         switch (scene) {
             case 0:
@@ -84,9 +92,35 @@ public final class AgainstReferenceTest {
             case 4:
                 return fine && both("setGrowth", below(9))
                         && both("generate", below(100000), 24 + below(9), 4 + below(6));
-            default:
+            case 5:
                 return fine && mixedClauses(variables);
+            case 6:
+                return fine && fillStack();
+            default:
+                return fine && both("setGrowth", 8) && both("generate", below(100000), 32, 2 + below(3))
+                        && eliminateSome() && eliminateSome() && eliminateSome();
         }
+    }
+
+    private boolean fillStack() throws Exception {
+        int[] known = FULL_STACKS[below(FULL_STACKS.length)];
+        boolean fine = both("setGrowth", 8) && both("generate", known[0], 32, 3) && both("eliminate", known[1]);
+        if (below(3) == 0) {
+            fine = fine && eliminateSome();
+        }
+        fine = fine && both("apply", 6);
+        for (int i = 0; i < 6 && fine; i++) {
+            fine = both("apply", below(10)) && both("canEliminate", below(10));
+        }
+        return fine;
+    }
+
+    private boolean eliminateSome() throws Exception {
+        boolean fine = true;
+        for (int v = 0; v < 10 && fine; v++) {
+            fine = both("canEliminate", v) && (below(3) != 0 || both("eliminate", v));
+        }
+        return fine;
     }
 
     private boolean mixedClauses(int variables) throws Exception {
