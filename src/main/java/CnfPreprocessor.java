@@ -384,7 +384,7 @@ public final class CnfPreprocessor {
 
     public int extend(int assignment) throws IllegalArgumentException {
         requireAssignment(assignment);
-        if (state.list.countFalsified(trueLiterals(assignment)) > 0) {
+        if (!state.list.isSatisfied(trueLiterals(assignment))) {
             return NONE;
         }
         return state.reconstruct(assignment);
@@ -394,7 +394,7 @@ public final class CnfPreprocessor {
         int active = state.activeVariables();
         int assignment = 0;
         for (int tried = 0; tried < MOST_ASSIGNMENTS; tried++) {
-            if (state.list.countFalsified(trueLiterals(assignment)) == 0) {
+            if (state.list.isSatisfied(trueLiterals(assignment))) {
                 return state.reconstruct(assignment);
             }
             assignment = nextSubset(assignment, active);
@@ -543,7 +543,7 @@ public final class CnfPreprocessor {
         int count = 0;
         int assignment = 0;
         for (int tried = 0; tried < MOST_ASSIGNMENTS; tried++) {
-            if (clauses.countFalsified(trueLiterals(assignment)) == 0) {
+            if (clauses.isSatisfied(trueLiterals(assignment))) {
                 count++;
             }
             assignment = nextSubset(assignment, variables);
@@ -673,6 +673,7 @@ public final class CnfPreprocessor {
     /** The propagation of a set over a list without one of its clauses; NONE if it fails. */
     private static int closure(ClauseList list, int except, int start) {
         int result = start;
+        // Each round but the last one adds a literal.
         for (int round = 0; round <= MOST_LITERALS; round++) {
             int before = result;
             for (int i = 0; i < list.size(); i++) {
@@ -730,18 +731,14 @@ public final class CnfPreprocessor {
     }
 
     private static boolean isBlocking(ClauseList list, int set, int literal) {
+        int clashing = complements(set & ~(1 << literal));
         for (int i = 0; i < list.size(); i++) {
             int other = list.at(i);
-            if (contains(other, literal ^ 1) && !hasComplementary(joined(set, other, literal >> 1))) {
+            if (contains(other, literal ^ 1) && (other & clashing) == 0) {
                 return false;
             }
         }
         return true;
-    }
-
-    /** All literals of two sets except those of a variable. */
-    private static int joined(int set, int other, int variable) {
-        return (set | other) & ~(3 << (2 * variable));
     }
 
     /** A list of sets of literals with a fixed room. */
@@ -831,6 +828,15 @@ public final class CnfPreprocessor {
                 }
             }
             return clauses;
+        }
+
+        boolean isSatisfied(int trueOnes) {
+            for (int i = 0; i < count; i++) {
+                if ((sets[i] & trueOnes) == 0) {
+                    return false;
+                }
+            }
+            return true;
         }
 
         int countFalsified(int trueOnes) {
@@ -1028,7 +1034,7 @@ public final class CnfPreprocessor {
                 int set = list.at(i);
                 for (int j = 0; j < list.size() && (set & positive) != 0 && found.size() <= limit; j++) {
                     int other = list.at(j);
-                    int resolved = joined(set, other, variable);
+                    int resolved = (set | other) & ~(positive | negative);
                     if ((other & negative) != 0 && !hasComplementary(resolved) && !found.has(resolved)) {
                         found.add(resolved);
                     }
@@ -1085,11 +1091,11 @@ public final class CnfPreprocessor {
 
         /** The set X of the document; NONE if its R is empty. */
         private int sharedByPartners(ClauseList list, int index, int literal) {
+            int clashing = complements(literals & ~(1 << literal));
             int shared = NONE;
             for (int i = 0; i < list.size(); i++) {
                 int other = list.at(i);
-                if (i != index && contains(other, literal ^ 1)
-                        && !hasComplementary(joined(literals, other, literal >> 1))) {
+                if (i != index && contains(other, literal ^ 1) && (other & clashing) == 0) {
                     shared &= other;
                 }
             }

@@ -183,7 +183,7 @@ public final class AgainstReferenceTest {
     }
 
     private boolean randomCall() throws Exception {
-        switch (below(40)) {
+        switch (below(41)) {
             case 0: return both("addClause", below(1 << 8), below(16) * below(2));
             case 1: return both("addClause", below(1 << 3), below(1 << 3) << 3);
             case 2: return both("generate", below(1000) - 10, below(6), below(5));
@@ -217,8 +217,38 @@ public final class AgainstReferenceTest {
             case 36: return both("solve") && both("unsatisfied", below(1030) - 3);
             case 37: return both("models", coin());
             case 38: return both("predict", technique(), coin());
-            default: return both("bestTechnique");
+            case 39: return both("bestTechnique");
+            default: return audit();
         }
+    }
+
+    /** All that can be asked about the present state. */
+    private boolean audit() throws Exception {
+        boolean fine = both("bestTechnique") && both("solve") && both("models", true) && both("models", false);
+        for (int v = 0; v < 10 && fine; v++) {
+            fine = both("status", v) && both("value", v) && both("canEliminate", v) && both("resolventCount", v)
+                    && both("resolvent", v, below(20), coin()) && both("extend", below(1024))
+                    && both("unsatisfied", below(1024)) && both("predict", v, true) && both("predict", v, false)
+                    && both("total", v);
+        }
+        for (int i = 0; i <= model.clauseCount() && fine; i++) {
+            fine = both("clause", i, true) && both("clause", i, false) && both("blockingLiteral", i)
+                    && both("extension", i, true) && both("extension", i, false) && both("coverPairs", i)
+                    && both("vivified", i, true) && both("vivified", i, false) && both("implied", i);
+        }
+        for (int i = 0; i < 20 && fine; i++) {
+            fine = both("occurrences", i) && both("propagate", i) && both("representative", i);
+            for (int j = 0; j < 20 && fine; j++) {
+                fine = both("reachable", i, j);
+            }
+        }
+        for (int i = 0; i <= model.rowCount() && fine; i++) {
+            fine = both("row", i, 0) && both("row", i, 1) && both("row", i, 2);
+        }
+        for (int i = 0; i < 100 && fine; i++) {
+            fine = both("outputByte", i);
+        }
+        return fine;
     }
 
     /** Makes a call on both objects, and tells whether both did the same. */

@@ -667,6 +667,7 @@ public final class PromisesTest {
         is(28, "coverPairs(0)", x.coverPairs(0), 2);
         is(29, "extension(0, true)", x.extension(0, true), 11);
         is(29, "extension(0, false)", x.extension(0, false), 0);
+        is(29, "extension(1, true) without another call before", formula(2, c(1), c(2)).extension(1, true), 2);
         CnfPreprocessor not = formula(2, c(1), c(-1));
         is(28, "coverPairs(0) of a clause that is not covered", not.coverPairs(0), -1);
         is(29, "extension(0, true) of a clause that is not covered", not.extension(0, true), 1);
@@ -707,6 +708,9 @@ public final class PromisesTest {
         is(18, "status(3) after equivalences", x.status(3), 3);
         is(12, "value(3) after equivalences", x.value(3), 1);
         is(18, "equivalences again", x.apply(8), 0);
+        CnfPreprocessor oneWay = formula(3, c(1, 2), c(1, -2), c(1, 3));
+        is(18, "equivalences: one way between both literals of a variable", oneWay.apply(8), 0);
+        is(18, "contradictory() after one way", oneWay.contradictory(), false);
         CnfPreprocessor y = formula(3, c(1, 2), c(1, -2), c(-1, 3), c(-1, -3), c(2, 3));
         is(18, "equivalences: both literals of a variable", y.apply(8), 0);
         outputIs(18, "after contradictory equivalences", y, "0;");
@@ -842,6 +846,10 @@ public final class PromisesTest {
         is(19, "run(5) up to the contradiction", y.run(5), 1);
         is(19, "contradictory() after run", y.contradictory(), true);
         is(19, "run(5) of a contradictory formula", y.run(5), 1);
+        CnfPreprocessor longer = formula(4, c(4), c(-4, 3), c(1, 2), c(-1, 2), c(-3, -2, 1));
+        write(longer, "u");
+        is(19, "run(1): the last round is played, too", longer.run(1), 1);
+        is(19, "total(0): the last round is played, too", longer.total(0), 2);
         CnfPreprocessor zeroBoth = formula(2, c(1, 2), c(1, -2), c(-1, 2), c(-1, -2));
         write(zeroBoth, "q");
         is(19, "run(3): the result is 0 and the formula contradictory", zeroBoth.run(3), 1);
@@ -882,7 +890,11 @@ public final class PromisesTest {
         is(24, "canEliminate(1)", x.canEliminate(1), true);
         refuses(21, "setGrowth(9)", x, ARGUMENT, () -> x.setGrowth(9));
         refuses(21, "setGrowth(-1)", x, ARGUMENT, () -> x.setGrowth(-1));
+        x.setGrowth(7);
         is(21, "undo() of setGrowth", x.undo(), 5);
+        is(21, "setGrowth(3) after undo()", x.setGrowth(3), 3);
+        x.undo();
+        x.undo();
         is(21, "setGrowth(8)", x.setGrowth(8), 2);
         is(21, "setGrowth(8) again", x.setGrowth(8), 8);
         refuses(24, "canEliminate(7)", x, INDEX, () -> x.canEliminate(7));
@@ -892,6 +904,37 @@ public final class PromisesTest {
         CnfPreprocessor absent = formula(3, c(1, 2));
         is(24, "canEliminate(2) of a variable that does not occur", absent.canEliminate(2), false);
         is(24, "canEliminate(1) of a variable with one literal", absent.canEliminate(1), true);
+        fullList();
+    }
+
+    /** Two variables with 16 resolvents for 8 clauses fill the list; a third one would make 6 clauses out of 5. */
+    private static void fullList() {
+        CnfPreprocessor x = new CnfPreprocessor();
+        x.reset(10);
+        x.setGrowth(8);
+        for (int v = 1; v <= 2; v++) {
+            for (int i = 4; i <= 7; i++) {
+                add(x, v, i);
+            }
+            for (int i = 8; i <= 10; i++) {
+                add(x, -v, i);
+            }
+            add(x, -v, 8, 9);
+        }
+        for (int[] clause : new int[][] {c(3, 4), c(3, 5), c(-3, 8), c(-3, 9), c(-3, 10)}) {
+            add(x, clause);
+        }
+        for (int i = 0; i < 11; i++) {
+            add(x, 4, 5, 6, 7, -8);
+        }
+        is(20, "eliminate(0) of 16 resolvents", x.eliminate(0), 16);
+        is(7, "clauseCount() with 16 resolvents", x.clauseCount(), 40);
+        is(24, "canEliminate(2) as long as the list is not full", x.canEliminate(2), true);
+        is(20, "eliminate(1) that fills the list", x.eliminate(1), 16);
+        is(7, "clauseCount() of a full list", x.clauseCount(), 48);
+        is(25, "resolventCount(2) beside a full list", x.resolventCount(2), 6);
+        is(24, "canEliminate(2) beside a full list", x.canEliminate(2), false);
+        refuses(20, "eliminate(2) beside a full list", x, STATE, () -> x.eliminate(2));
     }
 
     private static void undo() {
@@ -982,6 +1025,7 @@ public final class PromisesTest {
         is(33, "reachable(5, 1)", x.reachable(5, 1), true);
         is(33, "reachable(0, 1)", x.reachable(0, 1), false);
         is(33, "reachable(6, 3)", x.reachable(6, 3), true);
+        is(33, "reachable(4, 2): through literal 0", x.reachable(4, 2), true);
         is(33, "reachable(10, 10)", x.reachable(10, 10), true);
         is(33, "reachable(9, 8): a clause of one literal is no implication", x.reachable(9, 8), false);
         is(33, "reachable(9, 10): a clause of three literals is no implication", x.reachable(9, 10), false);
@@ -1045,6 +1089,9 @@ public final class PromisesTest {
         y.addClause(1, 0);
         is(38, "solve() without a solution", y.solve(), -1);
         is(38, "solve() without clauses", new CnfPreprocessor().solve(), 0);
+        CnfPreprocessor falseWitness = formula(3, c(-1, 2), c(1, 3), c(-2, 3, 1));
+        falseWitness.apply(5);
+        is(37, "extend(0) after blocked clauses", falseWitness.unsatisfied(falseWitness.extend(0)), 0);
         CnfPreprocessor order = formula(2, c(1, 2), c(-1, -2));
         order.apply(8);
         is(38, "solve() with substituted variables", order.solve(), 2);
@@ -1114,6 +1161,19 @@ public final class PromisesTest {
         long before = fewer.digest();
         is(42, "bestTechnique() of a contradiction that strengthening finds", fewer.bestTechnique(), 3);
         is(42, "the state is unchanged after bestTechnique()", fewer.digest() == before, true);
+        // Strengthening leaves 32 literals in 23 clauses, subsumption 69 in 21.
+        is(42, "bestTechnique(): literals come before clauses", bestOf(6, 23765, 16, 3, 15677, 7, 4), 3);
+        // Strengthening leaves 72 literals in 27 clauses, the removal of covered clauses 72 in 24.
+        is(42, "bestTechnique(): clauses decide between equals", bestOf(9, 41076, 18, 3, 51617, 9, 3), 6);
+    }
+
+    private static int bestOf(int variables, int... generated) {
+        CnfPreprocessor x = new CnfPreprocessor();
+        x.reset(variables);
+        for (int i = 0; i + 2 < generated.length; i += 3) {
+            x.generate(generated[i], generated[i + 1], generated[i + 2]);
+        }
+        return x.bestTechnique();
     }
 
     private static long digestOf(CnfPreprocessor x, int variables, int growth, int length, int saved) {
