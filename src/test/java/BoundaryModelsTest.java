@@ -105,6 +105,13 @@ public final class BoundaryModelsTest extends Checks {
             is("rowCount() of 120 rows", full.rowCount(), 120);
             full.apply(1);
             is("rowCount() beyond 120 rows", full.rowCount(), 123);
+            CnfPreprocessor most = fullStackWithCircle();
+            most.apply(8);
+            most.apply(0);
+            is("rowCount() of as many rows as there can be", most.rowCount(), 139);
+            most.reset(1);
+            most.undo();
+            is("rowCount() after undo()", most.rowCount(), 139);
         });
         sentence("Promise 36", "0 the positive set of its clause, 1 the negative set of its clause, 2 its witness", () -> {
             CnfPreprocessor x = formula(10, c(9, -10, -1), c(10));
@@ -128,6 +135,11 @@ public final class BoundaryModelsTest extends Checks {
             full.apply(1);
             is("row(122, 2)", full.row(122, 2), 10);
             refusesBeyond("row of 123 rows", full, INDEX, 123, i -> full.row(i, 1));
+            CnfPreprocessor most = fullStackWithCircle();
+            most.apply(8);
+            most.apply(0);
+            is("row(138, 2), the last row that there can be", most.row(138, 2), 0);
+            refusesBeyond("row of 139 rows", most, INDEX, 139, i -> most.row(i, 0));
             one.undo();
             refuses("row(0, 0) after undo()", one, INDEX, () -> one.row(0, 0));
         });

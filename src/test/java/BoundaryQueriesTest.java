@@ -40,6 +40,33 @@ public final class BoundaryQueriesTest extends Checks {
         return x;
     }
 
+    /**
+     * A list with 32 clauses that contain variable 2, half of which are resolvents themselves, and with 16 that contain
+     * its complement. They have no other variable in common, so that no two resolvents are equal.
+     */
+    private static CnfPreprocessor mostResolvents() {
+        CnfPreprocessor x = formula(10);
+        x.setGrowth(8);
+        int[][] singles = {c(4), c(-4), c(5), c(-5)};
+        int[][] doubles = {c(4, 5), c(4, -5), c(-4, 5), c(-4, -5)};
+        int[] others = {6, -6, 7, -7};
+        for (int i = 0; i < 4; i++) {
+            add(x, 1, 3, singles[i][0]);
+            add(x, -1, others[i]);
+            add(x, 2, 3, doubles[i][0], doubles[i][1]);
+            add(x, -2, others[i]);
+        }
+        for (int i = 0; i < 16; i++) {
+            int ninth = i / 3 % 3;
+            int tenth = i % 3;
+            x.addClause((i / 9) << 7 | (ninth == 1 ? 256 : 0) | (tenth == 1 ? 512 : 0),
+                    4 | (ninth == 2 ? 256 : 0) | (tenth == 2 ? 512 : 0));
+        }
+        x.eliminate(0);
+        x.eliminate(1);
+        return x;
+    }
+
     private static void resolvents() {
         sentence("Terms", "for each clause C of the list that contains the positive literal of v, in order, and for each"
                 + " clause D that contains its negative literal, in order", () -> {
@@ -71,6 +98,7 @@ public final class BoundaryQueriesTest extends Checks {
             is("resolventCount(0) of a contradictory formula", formula(1, c(1), c()).resolventCount(0), 0);
             is("resolventCount(0) of 32 clauses", manyResolvents().resolventCount(0), 256);
             is("resolventCount(2) of a full list", fullList().resolventCount(2), 6);
+            is("resolventCount(2) of 32 times 16", mostResolvents().resolventCount(2), 512);
         });
         sentence("Promise 25", "Throws IndexOutOfBoundsException if there is no such variable", () -> {
             for (int variables = 1; variables <= 10; variables++) {
@@ -151,6 +179,10 @@ public final class BoundaryQueriesTest extends Checks {
             refusesBeyond("resolvent of what does not occur", absent, INDEX, 0, i -> absent.resolvent(2, i, false));
             CnfPreprocessor many = manyResolvents();
             refusesBeyond("resolvent of 256", many, INDEX, 256, i -> many.resolvent(0, i, false));
+            CnfPreprocessor most = mostResolvents();
+            // The last clauses are 3 -4 -5 -7 and -3 8 -9, as 15 is 1 2 0 to the base 3.
+            is("resolvent(2, 511)", resolvent(most, 2, 511), "-4 -5 -7 8 -9 ");
+            refusesBeyond("resolvent of 512", most, INDEX, 512, i -> most.resolvent(2, i, false));
         });
         sentence("Promise 26", "Throws IllegalStateException if the variable is not active", () -> {
             CnfPreprocessor x = retired();
@@ -484,6 +516,10 @@ public final class BoundaryQueriesTest extends Checks {
             is("reachable(19, 1) through a chain", x.reachable(19, 1), true);
             is("reachable(18, 0)", x.reachable(18, 0), false);
             is("reachable(0, 19)", x.reachable(0, 19), false);
+            CnfPreprocessor first = formula(10, c(-5, 1), c(-1, 3), c(-7, -10), c(10, 8));
+            is("reachable(8, 4) through literal 0", first.reachable(8, 4), true);
+            is("reachable(12, 14) through literal 19", first.reachable(12, 14), true);
+            is("reachable(8, 14)", first.reachable(8, 14), false);
             CnfPreprocessor y = retired();
             is("reachable(2, 2) of a fixed variable", y.reachable(2, 2), true);
             is("reachable(2, 3) of a fixed variable", y.reachable(2, 3), false);

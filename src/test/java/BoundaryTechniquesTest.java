@@ -427,6 +427,11 @@ public final class BoundaryTechniquesTest extends Checks {
             is("propagate(2)", x.propagate(2), NONE);
             is("apply(7): variable 1 is fixed before it is examined", x.apply(7), 1);
             is("the stack", rows(x), "-1 : -1;-2 : -2;");
+            CnfPreprocessor gone = formula(3, c(1), c(2), c(-2));
+            gone.apply(1);
+            is("the stack, variable 0 is fixed before", rows(gone), "1 : 1;");
+            is("apply(7): each propagation fails, but variable 0 is not examined", gone.apply(7), 1);
+            is("the stack after it", rows(gone), "1 : 1;-2 : -2;");
         });
         sentence("Terms", "its complement is fixed, and then technique 0 is applied (its result is not added to any"
                 + " total)", () -> {
@@ -448,6 +453,26 @@ public final class BoundaryTechniquesTest extends Checks {
             is("reachable(1, 0)", oneWay.reachable(1, 0), true);
             is("apply(8): one way is not enough", oneWay.apply(8), 0);
             is("contradictory()", oneWay.contradictory(), false);
+            CnfPreprocessor ways = formula(10, c(-1, 2), c(-1, -2), c(3, 4), c(3, -4), c(-9, 10), c(-9, -10));
+            is("reachable(0, 1)", ways.reachable(0, 1), true);
+            is("reachable(5, 4)", ways.reachable(5, 4), true);
+            is("reachable(16, 17)", ways.reachable(16, 17), true);
+            is("apply(8): one way of several variables is not enough", ways.apply(8), 0);
+            is("contradictory()", ways.contradictory(), false);
+            int[][][] roundabout = {
+                {c(-2, -1), c(2, 3), c(2, -3)}, {c(1, 2), c(-2, 3), c(-2, -3)},
+                {c(-1, 2), c(1, 3), c(1, -3)}, {c(-2, 1), c(-1, 3), c(-1, -3)},
+            };
+            for (int[][] clauses : roundabout) {
+                CnfPreprocessor another = formula(3, clauses);
+                is("apply(8): the other way leads to another variable", another.apply(8), 0);
+                is("contradictory()", another.contradictory(), false);
+            }
+            for (int i = 1; i < 10; i++) {
+                CnfPreprocessor two = formula(10, c(i, i + 1), c(i, -i - 1), c(-i, i + 1), c(-i, -i - 1));
+                is("apply(8)", two.apply(8), 0);
+                is("contradictory(), variables " + i + " and " + (i + 1), two.contradictory(), true);
+            }
             CnfPreprocessor x = formula(4, c(1, 2), c(1, -2), c(-1, 2), c(-1, -2), c(3, -4), c(-3, 4));
             is("apply(8)", x.apply(8), 0);
             is("the list", list(x), "0;");
@@ -538,6 +563,20 @@ public final class BoundaryTechniquesTest extends Checks {
             CnfPreprocessor x = fullStackWithUnit();
             is("apply(7) with 120 rows", x.apply(7), 1);
             is("the new row", rows(x, 120), "-4 : -4;");
+        });
+        sentence("Terms", "v becomes substituted", () -> {
+            CnfPreprocessor x = fullStackWithCircle();
+            is("total(6)", x.total(6), 16);
+            is("rowCount()", x.rowCount(), 120);
+            is("coverPairs(0), the 14th equal clause", x.coverPairs(0), 9);
+            is("apply(8) with 120 rows", x.apply(8), 9);
+            is("rowCount() afterwards", x.rowCount(), 138);
+            is("status(9)", x.status(9), 3);
+            is("the list", list(x), "1 0;");
+            is("apply(0) with 138 rows", x.apply(0), 1);
+            is("the last rows", rows(x, 136), "-1 10 : 10;1 -10 : -10;1 : 1;");
+            is("solve()", x.solve(), 1023);
+            is("unsatisfied(1023)", x.unsatisfied(1023), 0);
         });
         sentence("Terms", "then the row with the clause of the negative literal of v and r, and with the negative literal"
                 + " of v as its witness", () -> {

@@ -285,6 +285,20 @@ public final class BoundaryTextsTest extends Checks {
             write(x, " ".repeat(159) + "1");
             leaves("readClauses()", x, () -> is("readClauses() of an error at 160", x.readClauses(), -161));
         });
+        sentence("Promise 16", "if there is a syntax error (then nothing changes)", () -> {
+            for (String error : new String[] {"-", "1", "-1", "1 ", "1 -2 x", "0 1", "00", "10", "-x", "3 -3"}) {
+                CnfPreprocessor x = formula(3);
+                write(x, error);
+                is("readClauses() of \"" + error + "\" is an error", x.readClauses() < 0, true);
+                write(x, "");
+                is("readClauses() of no text after it", x.readClauses(), 0);
+                write(x, error);
+                x.readClauses();
+                write(x, "2 0");
+                is("readClauses() of a text after it", x.readClauses(), 1);
+                is("the list after \"" + error + "\" and \"2 0\"", list(x), "2 0;");
+            }
+        });
     }
 
     private static void readClausesRefuses() {

@@ -299,4 +299,26 @@ abstract class Checks {
     static CnfPreprocessor fullStackWithPureLiterals() {
         return stacked(126890820, 1);
     }
+
+    /**
+     * 120 rows, and an implication from each variable to the next one and from the last one to the first one, and the
+     * clause 1 2. Equivalences and units can push 19 rows more, which are the most that there can ever be.
+     */
+    static CnfPreprocessor fullStackWithCircle() {
+        CnfPreprocessor x = formula(10);
+        for (int i = 0; i < 3; i++) {
+            add(x, 1, -2);
+        }
+        for (int i = 0; i < 14; i++) {
+            add(x, -1, 2);
+        }
+        for (int i = 2; i < 10; i++) {
+            add(x, -i, i + 1);
+        }
+        add(x, -10, 1);
+        add(x, 1, 2);
+        // One pair for each of the first 3 clauses, and 9 pairs for each of the next 13.
+        x.apply(6);
+        return x;
+    }
 }
