@@ -33,6 +33,9 @@ public final class CnfPreprocessor {
     /** Each pair but the last one adds a literal to the extension. */
     private static final int MOST_PAIRS = MOST_VARIABLES + 1;
 
+    /** Behind each pair but the last one the literals are examined again from the lowest one on. */
+    private static final int MOST_EXAMINED = (MOST_PAIRS + 1) * MOST_LITERALS;
+
     private static final int MOST_BYTES = 160;
     private static final int MOST_LETTERS = 20;
     private static final int BLANK = 32;
@@ -1054,31 +1057,25 @@ public final class CnfPreprocessor {
             literals = list.at(index);
             covered = false;
             pairs.clear();
-            boolean growing = true;
-            for (int round = 0; growing && round < MOST_PAIRS; round++) {
-                growing = growOnce(list, index);
+            int literal = 0;
+            for (int step = 0; step < MOST_EXAMINED && literal < MOST_LITERALS && !covered; step++) {
+                int shared = contains(literals, literal) ? sharedByPartners(list, index, literal) : 0;
+                if (shared == 0) {
+                    literal++;
+                    continue;
+                }
+                addPair(literal);
+                if (shared == NONE) {
+                    covered = true;
+                } else {
+                    literals |= shared;
+                    literal = 0;
+                }
             }
         }
 
         int witnessAt(int index) {
             return index >= 0 && index < MOST_PAIRS ? witnesses[index] : 0;
-        }
-
-        /** Examines the literals until one of them adds a pair; tells whether it has added literals, too. */
-        private boolean growOnce(ClauseList list, int index) {
-            for (int literal = 0; literal < MOST_LITERALS; literal++) {
-                if (!contains(literals, literal)) {
-                    continue;
-                }
-                int shared = sharedByPartners(list, index, literal);
-                if (shared != 0) {
-                    addPair(literal);
-                    covered = shared == NONE;
-                    literals |= covered ? 0 : shared;
-                    return !covered;
-                }
-            }
-            return false;
         }
 
         private void addPair(int literal) {
@@ -1135,7 +1132,7 @@ public final class CnfPreprocessor {
         }
 
         boolean leads(int from, int to) {
-            return from >= 0 && from < MOST_LITERALS && contains(reached[from], to);
+            return from >= 0 && from < MOST_LITERALS && (reached[from] >> to & 1) != 0;
         }
 
         int lowestEquivalent(int literal) {
